@@ -390,14 +390,14 @@ public final class TokenSuite {
     private void mergePairs(int token) {
         int size = madeSize;
         int kept = 0;
+        int next = 0;
         for (int i = 0; i < size; i++) {
-            int next = made[i];
-            if (next == leftOf[token] && i + 1 < size && made[i + 1] == rightOf[token]) {
-                next = token;
-                i++;
+            if (i == next) {
+                boolean paired = i + 1 < size && made[i] == leftOf[token] && made[i + 1] == rightOf[token];
+                made[kept] = paired ? token : made[i];
+                kept++;
+                next = paired ? i + 2 : i + 1;
             }
-            made[kept] = next;
-            kept++;
         }
         madeSize = kept;
     }
@@ -453,7 +453,8 @@ public final class TokenSuite {
 
     private void offerSplits(int place, int token) {
         int behind = place + spellingLength[token];
-        for (int rank = 0; rank < slotsAt[behind]; rank++) {
+        int rests = slotsAt[behind];
+        for (int rank = 0; rank < rests; rank++) {
             offerSplit(place, token, behind * RANKS + rank);
         }
     }

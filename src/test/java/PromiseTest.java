@@ -444,6 +444,11 @@ public final class PromiseTest {
         due("16 the longest of several", splitOf(suite, "0120101", 1), "7 6 6");
         due("16 no token beyond the end", splitOf(suite, "201", 1), "2 6");
         due("16 full text", splitOf(suite, "012012012012", 2), "7 7 7 7");
+        suite.unlearn();
+        suite.unlearn();
+        for (int way = 0; way < 3; way++) {
+            due("16 forgotten tokens", splitOf(suite, "012", way), "0 1 2");
+        }
     }
 
     private static void promises17And18SizeAndAt() {
@@ -589,6 +594,9 @@ public final class PromiseTest {
         due("24 an empty word", suite.expense(), 120 + 50 * 8 * 99);
         retype(suite, "333");
         due("24 text is no matter", suite.expense(), 120 + 50 * 8 * 99);
+        suite.dropWord();
+        suite.dropWord();
+        due("24 dropped words", suite.expense(), 120);
     }
 
     private static void promise25Worth() {
