@@ -1,112 +1,6 @@
 // One method for each promise of the document: ordinary inputs, the named edges, wrong inputs.
-public final class PromiseTest {
-    private static final int BAD = TokenSuite.BAD;
-    private static final int NONE = TokenSuite.NONE;
-    private static final int FULL = TokenSuite.FULL;
+public final class PromiseTest extends Checks {
     private static final int[] FAR = {Integer.MIN_VALUE, -1, 20, 1000, Integer.MAX_VALUE};
-
-    private static int wrong = 0;
-
-    private static void due(String what, int got, int want) {
-        if (got != want) {
-            wrong++;
-            System.out.println(what + " answered " + got + ", due is " + want);
-        }
-    }
-
-    private static void due(String what, String got, String want) {
-        if (!got.equals(want)) {
-            wrong++;
-            System.out.println(what + " gave " + got + ", due is " + want);
-        }
-    }
-
-    private static void add(TokenSuite suite, int count, String letters) {
-        suite.word(count);
-        for (char letter : letters.toCharArray()) {
-            suite.spell(letter - '0');
-        }
-    }
-
-    private static void retype(TokenSuite suite, String letters) {
-        suite.wipe();
-        for (char letter : letters.toCharArray()) {
-            suite.type(letter - '0');
-        }
-    }
-
-    private static String result(TokenSuite suite) {
-        StringBuilder row = new StringBuilder();
-        for (int i = 0; i < suite.size(); i++) {
-            row.append(i == 0 ? "" : " ").append(suite.at(i));
-        }
-        return row.toString();
-    }
-
-    private static String splitOf(TokenSuite suite, String letters, int way) {
-        retype(suite, letters);
-        suite.split(way);
-        return result(suite);
-    }
-
-    private static String rankedSplit(TokenSuite suite, int k) {
-        StringBuilder row = new StringBuilder();
-        for (int i = 0; i < 12 && suite.rankedAt(k, i) >= 0; i++) {
-            row.append(i == 0 ? "" : " ").append(suite.rankedAt(k, i));
-        }
-        return row.toString();
-    }
-
-    private static String spelled(TokenSuite suite, int x) {
-        StringBuilder row = new StringBuilder();
-        for (int i = 0; i < suite.length(x); i++) {
-            row.append(suite.letter(x, i));
-        }
-        return row.toString();
-    }
-
-    /** Tokens 6 = 1 2 and 7 = 0 1, which compete for the 1 of a text 0 1 2. */
-    private static TokenSuite competing() {
-        TokenSuite suite = new TokenSuite();
-        add(suite, 5, "12");
-        add(suite, 4, "01");
-        suite.learn();
-        suite.learn();
-        return suite;
-    }
-
-    /** Token 6 = 0 0. */
-    private static TokenSuite doubled() {
-        TokenSuite suite = new TokenSuite();
-        add(suite, 2, "00");
-        suite.learn();
-        return suite;
-    }
-
-    /** Tokens 6 = 0 1 and 7 = 6 2, with the word 0 1 2 of count 2. */
-    private static TokenSuite nested() {
-        TokenSuite suite = new TokenSuite();
-        add(suite, 2, "012");
-        suite.learn();
-        suite.learn();
-        return suite;
-    }
-
-    /** Fourteen learned tokens, and twelve words in which the pair 5 5 could still be learned. */
-    private static TokenSuite allLearned() {
-        TokenSuite suite = new TokenSuite();
-        String[] words = {"012", "034", "051", "020", "130", "142", "253"};
-        for (String word : words) {
-            add(suite, 3, word);
-        }
-        for (int i = 0; i < 14; i++) {
-            suite.learn();
-        }
-        for (int i = 0; i < 5; i++) {
-            add(suite, 3, "55");
-        }
-        return suite;
-    }
 
     private static void promise1NewObject() {
         due("BAD", TokenSuite.BAD, -1);
@@ -671,9 +565,6 @@ public final class PromiseTest {
         promise24Expense();
         promise25Worth();
         promise26OrderAndLimits();
-        if (wrong > 0) {
-            System.exit(1);
-        }
-        System.out.println("all promises hold");
+        end();
     }
 }
