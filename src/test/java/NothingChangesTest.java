@@ -55,6 +55,13 @@ public final class NothingChangesTest extends Checks {
         return suite;
     }
 
+    private static TokenSuite wordless() {
+        TokenSuite suite = ordinary();
+        // No more than there are: a refused call here would hide what such calls do.
+        dropWords(suite, 3);
+        return suite;
+    }
+
     private static String tokensSide(TokenSuite suite) {
         StringBuilder seen = new StringBuilder();
         for (int x = 0; x < MOST_TOKENS; x++) {
@@ -167,13 +174,13 @@ public final class NothingChangesTest extends Checks {
         refused("word(50)", FULL, s -> s.word(50), "full");
         refused("spell(-1)", BAD, s -> s.spell(-1));
         refused("spell(6)", BAD, s -> s.spell(6));
-        refused("spell(1)", NONE, s -> s.spell(1), "new");
+        refused("spell(1)", NONE, s -> s.spell(1), "new", "wordless");
         refused("spell(1)", FULL, s -> s.spell(1), "full");
-        refused("dropWord()", NONE, s -> s.dropWord(), "new");
+        refused("dropWord()", NONE, s -> s.dropWord(), "new", "wordless");
     }
 
     private static void refusedForTokens() {
-        refused("learn()", NONE, s -> s.learn(), "new", "fullWithoutPairs");
+        refused("learn()", NONE, s -> s.learn(), "new", "wordless", "fullWithoutPairs");
         refused("learn()", FULL, s -> s.learn(), "full");
         refused("unlearn()", NONE, s -> s.unlearn(), "new", "forgetful");
         for (int x : new int[] {-1, 20}) {
@@ -269,6 +276,7 @@ public final class NothingChangesTest extends Checks {
         STATES.put("full", NothingChangesTest::full);
         STATES.put("fullWithoutPairs", NothingChangesTest::fullWithoutPairs);
         STATES.put("forgetful", NothingChangesTest::forgetful);
+        STATES.put("wordless", NothingChangesTest::wordless);
         SIDES.put("tokens", NothingChangesTest::tokensSide);
         SIDES.put("result", NothingChangesTest::resultSide);
         SIDES.put("text", NothingChangesTest::textSide);

@@ -414,15 +414,19 @@ public final class SplitsEdgeTest extends Checks {
     }
 
     private static void terms() {
-        sentence("Terms", "for every learned token in the order of their numbers", SplitsEdgeTest::mergesInOrderOfNumbers);
-        sentence("Terms", "from the left .. and it is gone on behind it", SplitsEdgeTest::mergesFromTheLeftAndGoesOnBehind);
+        sentence("Terms", "for every learned token in the order of their numbers",
+                SplitsEdgeTest::mergesInOrderOfNumbers);
+        sentence("Terms", "from the left .. and it is gone on behind it",
+                SplitsEdgeTest::mergesFromTheLeftAndGoesOnBehind);
         sentence("Terms", "the token that spells most letters", SplitsEdgeTest::longestTakesMostLetters);
         sentence("Terms", "and fits there", SplitsEdgeTest::longestFits);
         sentence("Terms", "and goes on behind it in the same way", SplitsEdgeTest::longestGoesOnBehind);
         sentence("Terms", "by the sum of their prices, the lesser first", SplitsEdgeTest::lesserSumFirst);
         sentence("Terms", "by their number of tokens, fewer first", SplitsEdgeTest::fewerTokensFirst);
-        sentence("Terms", "the lesser first at the first place at which they differ", SplitsEdgeTest::lesserTokensFirst);
-        sentence("Terms", "The CHEAPEST split is the first one in this order", SplitsEdgeTest::cheapestIsTheFirst);
+        sentence("Terms", "the lesser first at the first place at which they differ",
+                SplitsEdgeTest::lesserTokensFirst);
+        sentence("Terms", "The CHEAPEST split is the first one in this order",
+                SplitsEdgeTest::cheapestIsTheFirst);
     }
 
     private static void textAndResult() {
@@ -436,7 +440,8 @@ public final class SplitsEdgeTest extends Checks {
         sentence("16", "way is not 0 .. 2: BAD", SplitsEdgeTest::wayOutsideItsBounds);
         sentence("16", "The result becomes what .. makes of the text", SplitsEdgeTest::splitOfEmptyText);
         sentence("16", "The result becomes what .. makes of the text", SplitsEdgeTest::splitOfOneLetter);
-        sentence("16", "Else answers how many tokens the result has", SplitsEdgeTest::splitAnswersHowManyTokens);
+        sentence("16", "Else answers how many tokens the result has",
+                SplitsEdgeTest::splitAnswersHowManyTokens);
         sentence("17", "The number of tokens of the result", SplitsEdgeTest::sizeOfResult);
         sentence("18", "NONE if there is none", SplitsEdgeTest::atOutsideTheResult);
     }

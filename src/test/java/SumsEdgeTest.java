@@ -252,7 +252,8 @@ public final class SumsEdgeTest extends Checks {
     private static void resultSums() {
         sentence("19", "The sum of the prices", SumsEdgeTest::costOfResult);
         sentence("19", "as they are now", SumsEdgeTest::costAsPricesAreNow);
-        sentence("19", "of the tokens of the result that there still are", SumsEdgeTest::costOfTokensThatThereStillAre);
+        sentence("19", "of the tokens of the result that there still are",
+                SumsEdgeTest::costOfTokensThatThereStillAre);
         sentence("19", "of the tokens of the result that there still are", SumsEdgeTest::costOfTheLastToken);
         sentence("26", "counts again .. once another one has its number", SumsEdgeTest::forgottenCountsAgain);
         sentence("26", "with the price there is now", SumsEdgeTest::countsWithThePriceThereIsNow);
@@ -267,7 +268,8 @@ public final class SumsEdgeTest extends Checks {
         sentence("25", "x is not good: BAD", SumsEdgeTest::worthBadToken);
         sentence("25", "it is a letter: NONE", SumsEdgeTest::worthOfLetter);
         sentence("25", "By how much expense would be greater", SumsEdgeTest::worthByHowMuchGreater);
-        sentence("25", "if the learned token x could not be used in splits", SumsEdgeTest::worthLeavesOthersUsable);
+        sentence("25", "if the learned token x could not be used in splits",
+                SumsEdgeTest::worthLeavesOthersUsable);
     }
 
     public static void main(String[] args) {

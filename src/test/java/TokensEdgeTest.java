@@ -223,7 +223,8 @@ public final class TokensEdgeTest extends Checks {
         sentence("13", "x is not good .. BAD", TokensEdgeTest::priceOfBadToken);
         sentence("13", "or price not 1 .. 99: BAD", TokensEdgeTest::priceOutsideItsBounds);
         sentence("13", "x is not good, or price not 1 .. 99", TokensEdgeTest::priceBothBad);
-        sentence("13", "a learned one keeps it until it is forgotten", TokensEdgeTest::learnedKeepsPriceUntilForgotten);
+        sentence("13", "a learned one keeps it until it is forgotten",
+                TokensEdgeTest::learnedKeepsPriceUntilForgotten);
         sentence("13", "Sets a token's price", TokensEdgeTest::letterKeepsPrice);
         sentence("13", "Else answers the price before", TokensEdgeTest::priceAnswersTheOneBefore);
     }

@@ -456,12 +456,14 @@ public final class WordsEdgeTest extends Checks {
 
     private static void terms() {
         sentence("Terms", "There are six LETTERS 0 .. 5", WordsEdgeTest::sixLetters);
-        sentence("Terms", "at most twelve rows of at most eight letters", WordsEdgeTest::eightLettersInEachOfTwelveWords);
+        sentence("Terms", "at most twelve rows of at most eight letters",
+                WordsEdgeTest::eightLettersInEachOfTwelveWords);
         sentence("Terms", "a PRICE 1 .. 99: 20 for letters at first", WordsEdgeTest::firstPriceOfLetters);
         sentence("Terms", "25 for a learned token at first", WordsEdgeTest::firstPriceOfLearnedTokens);
         sentence("Terms", "both are empty at first", WordsEdgeTest::newTextAndResultAreEmpty);
         sentence("Terms", "at all places, also if these overlap", WordsEdgeTest::pairsOverlap);
-        sentence("Terms", "the sum, over all words, of how often it occurs", WordsEdgeTest::frequencyIsASumOverWords);
+        sentence("Terms", "the sum, over all words, of how often it occurs",
+                WordsEdgeTest::frequencyIsASumOverWords);
     }
 
     private static void newObjectAndWords() {
@@ -485,7 +487,8 @@ public final class WordsEdgeTest extends Checks {
 
     private static void learning() {
         sentence("5", "the pair with the greatest frequency", WordsEdgeTest::learnsTheGreatestFrequency);
-        sentence("5", "of several the one with the least first token", WordsEdgeTest::learnsTheLeastFirstToken);
+        sentence("5", "of several the one with the least first token",
+                WordsEdgeTest::learnsTheLeastFirstToken);
         sentence("5", "of those with the least second one", WordsEdgeTest::learnsTheLeastSecondToken);
         sentence("5", "No pair has a frequency of 2 or more: NONE", WordsEdgeTest::frequencyOfTwoIsNeeded);
         sentence("5", "fourteen are learned: FULL", WordsEdgeTest::fourteenLearned);
@@ -494,7 +497,8 @@ public final class WordsEdgeTest extends Checks {
         sentence("5", "Words may change later; what is learned stays", WordsEdgeTest::learnedStays);
         sentence("6", "Forgets the last learned token", WordsEdgeTest::unlearnsTheLast);
         sentence("6", "None is learned: NONE", WordsEdgeTest::unlearnWithNoneLearned);
-        sentence("6", "Else answers how many tokens there are then", WordsEdgeTest::unlearnAnswersHowManyTokens);
+        sentence("6", "Else answers how many tokens there are then",
+                WordsEdgeTest::unlearnAnswersHowManyTokens);
         sentence("7", "x or y is not good: BAD", WordsEdgeTest::frequencyBad);
         sentence("7", "x or y is not good: BAD", WordsEdgeTest::frequencyBadWithAllLearned);
     }
