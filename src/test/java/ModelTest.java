@@ -6,24 +6,10 @@ import java.util.List;
 public final class ModelTest {
     private static final int RUNS = 400;
     private static final int CALLS = 512;
-    private static final String[] NAMES = {"word", "spell", "dropWord", "learn", "unlearn", "frequency", "tokens",
-        "left", "right", "length", "letter", "price", "type", "wipe", "split", "size", "at", "cost", "ways",
-        "ranked", "rankedAt", "load", "expense", "worth"};
-    private static final int METHODS = NAMES.length;
+    private static final int METHODS = Calls.NAMES.length;
 
-    // The runs are the same each time: the numbers come from a fixed start.
-    private static long state = 20261115L;
     private static int wrong = 0;
     private static final int[][] seen = new int[METHODS][4];
-
-    private static int pick(int bound) {
-        state = state * 6364136223846793005L + 1442695040888963407L;
-        return (int) ((state >>> 33) % bound);
-    }
-
-    private static int pickBetween(int least, int most) {
-        return least + pick(most - least + 1);
-    }
 
     public static void main(String[] args) {
         for (int run = 0; run < RUNS && wrong < 20; run++) {
@@ -42,19 +28,19 @@ public final class ModelTest {
         int alphabet = 1 + run % 6;
         for (int call = 0; call < CALLS; call++) {
             // Few words and letters early, so that there is something to learn and to split.
-            int method = call < 120 ? pick(3) == 0 ? 3 : pick(2) : pick(METHODS);
-            if (call >= 120 && pick(4) == 0) {
-                method = new int[] {1, 3, 12, 12}[pick(4)];
+            int method = call < 120 ? Calls.pick(3) == 0 ? 3 : Calls.pick(2) : Calls.pick(METHODS);
+            if (call >= 120 && Calls.pick(4) == 0) {
+                method = new int[] {1, 3, 12, 12}[Calls.pick(4)];
             }
-            int letter = pick(25) == 0 ? pickBetween(-1, 6) : pick(alphabet);
-            int a = firstArgument(method, letter, model);
-            int b = secondArgument(method, model);
-            int got = callSuite(suite, method, a, b);
+            int letter = Calls.pick(25) == 0 ? Calls.pickBetween(-1, 6) : Calls.pick(alphabet);
+            int a = Calls.pick(60) == 0 ? Calls.pickFar() : firstArgument(method, letter, model);
+            int b = Calls.pick(60) == 0 ? Calls.pickFar() : secondArgument(method, model);
+            int got = Calls.call(suite, method, a, b);
             int want = model.call(method, a, b);
             seen[method][got < 0 ? -got : 0]++;
             if (got != want) {
                 wrong++;
-                System.out.println("run " + run + ", call " + call + ": " + NAMES[method] + " (of " + a + ", " + b
+                System.out.println("run " + run + ", call " + call + ": " + Calls.NAMES[method] + " (of " + a + ", " + b
                         + ") answered " + got + ", due is " + want);
                 return;
             }
@@ -64,60 +50,31 @@ public final class ModelTest {
     private static int firstArgument(int method, int letter, Model model) {
         switch (method) {
             case 0:
-                return pick(10) == 0 ? pickBetween(-1, 52) : pickBetween(1, 50);
+                return Calls.pick(10) == 0 ? Calls.pickBetween(-1, 52) : Calls.pickBetween(1, 50);
             case 1:
             case 12:
                 return letter;
             case 14:
             case 21:
-                return pickBetween(-1, 3);
+                return Calls.pickBetween(-1, 3);
             case 16:
-                return pickBetween(-1, 12);
+                return Calls.pickBetween(-1, 12);
             case 19:
             case 20:
-                return pickBetween(-1, 6);
+                return Calls.pickBetween(-1, 6);
             default:
-                return pickBetween(-1, model.prices.size());
+                return Calls.pickBetween(-1, model.prices.size());
         }
     }
 
     private static int secondArgument(int method, Model model) {
         switch (method) {
             case 5:
-                return pickBetween(-1, model.prices.size());
+                return Calls.pickBetween(-1, model.prices.size());
             case 11:
-                return pick(10) == 0 ? pickBetween(-1, 101) : 5 * pickBetween(1, 12);
+                return Calls.pick(10) == 0 ? Calls.pickBetween(-1, 101) : 5 * Calls.pickBetween(1, 12);
             default:
-                return pickBetween(-1, 12);
-        }
-    }
-
-    private static int callSuite(TokenSuite suite, int method, int a, int b) {
-        switch (method) {
-            case 0: return suite.word(a);
-            case 1: return suite.spell(a);
-            case 2: return suite.dropWord();
-            case 3: return suite.learn();
-            case 4: return suite.unlearn();
-            case 5: return suite.frequency(a, b);
-            case 6: return suite.tokens();
-            case 7: return suite.left(a);
-            case 8: return suite.right(a);
-            case 9: return suite.length(a);
-            case 10: return suite.letter(a, b);
-            case 11: return suite.price(a, b);
-            case 12: return suite.type(a);
-            case 13: return suite.wipe();
-            case 14: return suite.split(a);
-            case 15: return suite.size();
-            case 16: return suite.at(a);
-            case 17: return suite.cost();
-            case 18: return suite.ways();
-            case 19: return suite.ranked(a);
-            case 20: return suite.rankedAt(a, b);
-            case 21: return suite.load(a);
-            case 22: return suite.expense();
-            default: return suite.worth(a);
+                return Calls.pickBetween(-1, 12);
         }
     }
 
@@ -131,7 +88,7 @@ public final class ModelTest {
                 boolean expected = kind == 0 || due[method].charAt(kind - 1) != '-';
                 if (expected != (seen[method][kind] > 0)) {
                     wrong++;
-                    System.out.println(NAMES[method] + " gave answers of kind " + -kind + " "
+                    System.out.println(Calls.NAMES[method] + " gave answers of kind " + -kind + " "
                             + seen[method][kind] + " times");
                 }
             }

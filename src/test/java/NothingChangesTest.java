@@ -7,6 +7,7 @@ import java.util.function.ToIntFunction;
 // "A refused call (an answer below 0) changes nothing. Questions change nothing." Of two objects that
 // were made alike one gets such a call; then both must show the same. An object is looked at from
 // several sides, a new pair for each, as the looking itself may change it and takes many calls.
+// A call that is not refused must leave the sides the same that its promise does not speak of.
 public final class NothingChangesTest extends Checks {
     private static final int MOST_CALLS = 512;
 
@@ -145,13 +146,17 @@ public final class NothingChangesTest extends Checks {
         return seen.append(suite.word(1)).append(' ').append(suite.unlearn()).toString();
     }
 
+    private static void same(String call, ToIntFunction<TokenSuite> made, String state, String side) {
+        TokenSuite called = STATES.get(state).get();
+        made.applyAsInt(called);
+        String got = SIDES.get(side).apply(called);
+        String want = SIDES.get(side).apply(STATES.get(state).get());
+        due(call + " on " + state + ", then " + side, got, want);
+    }
+
     private static void same(String call, ToIntFunction<TokenSuite> made, String state) {
         for (String side : SIDES.keySet()) {
-            TokenSuite called = STATES.get(state).get();
-            made.applyAsInt(called);
-            String got = SIDES.get(side).apply(called);
-            String want = SIDES.get(side).apply(STATES.get(state).get());
-            due(call + " on " + state + ", then " + side, got, want);
+            same(call, made, state, side);
         }
     }
 
@@ -165,6 +170,15 @@ public final class NothingChangesTest extends Checks {
     private static void question(String call, ToIntFunction<TokenSuite> made) {
         for (String state : STATES.keySet()) {
             same(call, made, state);
+        }
+    }
+
+    /** A call that may change all but the sides named; in some states it may be refused, too. */
+    private static void leaves(String call, ToIntFunction<TokenSuite> made, String... sides) {
+        for (String state : STATES.keySet()) {
+            for (String side : sides) {
+                same(call, made, state, side);
+            }
         }
     }
 
@@ -248,6 +262,25 @@ public final class NothingChangesTest extends Checks {
         question("worth(6)", s -> s.worth(6));
     }
 
+    private static void leftAsItWas() {
+        String low = "frequencies of 0 .. 9";
+        String high = "frequencies of 10 .. 19";
+        leaves("word(50)", s -> s.word(50), "tokens", "row", "result", "text", "sums", low, high);
+        leaves("spell(1)", s -> s.spell(1), "tokens", "row", "result", "text");
+        leaves("dropWord()", s -> s.dropWord(), "tokens", "row", "result", "text");
+        leaves("learn()", s -> s.learn(), "row", "words");
+        leaves("unlearn()", s -> s.unlearn(), "row", "words");
+        leaves("price(0, 9)", s -> s.price(0, 9), "row", "words", "learning", low, high);
+        leaves("price(6, 9)", s -> s.price(6, 9), "row", "words", "learning", low, high);
+        leaves("type(1)", s -> s.type(1), "tokens", "row", "result", "sums", low, high, "words", "learning");
+        leaves("wipe()", s -> s.wipe(), "tokens", "row", "result", "sums", low, high, "words", "learning");
+        for (int way = 0; way < 3; way++) {
+            int asked = way;
+            leaves("split(" + way + ")", s -> s.split(asked), "tokens", "text", "sums", low, high, "words",
+                    "learning");
+        }
+    }
+
     private static void answersUpToTheLastCall() {
         TokenSuite suite = new TokenSuite();
         add(suite, 2, "0000");
@@ -278,6 +311,7 @@ public final class NothingChangesTest extends Checks {
         STATES.put("forgetful", NothingChangesTest::forgetful);
         STATES.put("wordless", NothingChangesTest::wordless);
         SIDES.put("tokens", NothingChangesTest::tokensSide);
+        SIDES.put("row", Checks::result);
         SIDES.put("result", NothingChangesTest::resultSide);
         SIDES.put("text", NothingChangesTest::textSide);
         SIDES.put("sums", NothingChangesTest::sumsSide);
@@ -285,11 +319,14 @@ public final class NothingChangesTest extends Checks {
         SIDES.put("frequencies of 10 .. 19", suite -> frequenciesSide(suite, 10));
         SIDES.put("words", NothingChangesTest::wordsSide);
         SIDES.put("learning", NothingChangesTest::learningSide);
-        sentence("Terms", "A refused call changes nothing", NothingChangesTest::refusedForWords);
-        sentence("Terms", "A refused call changes nothing", NothingChangesTest::refusedForTokens);
-        sentence("Terms", "A refused call changes nothing", NothingChangesTest::refusedForTexts);
+        sentence("Terms", "A refused call [..] changes nothing", NothingChangesTest::refusedForWords);
+        sentence("Terms", "A refused call [..] changes nothing", NothingChangesTest::refusedForTokens);
+        sentence("Terms", "A refused call [..] changes nothing", NothingChangesTest::refusedForTexts);
         sentence("Terms", "Questions change nothing", NothingChangesTest::questions);
-        sentence("What it is", "An object is used for at most 512 calls", NothingChangesTest::answersUpToTheLastCall);
+        sentence("Not promised", "Nothing is promised beyond the answers and state changes described above",
+                NothingChangesTest::leftAsItWas);
+        sentence("What it is", "An object is used for at most 512 calls",
+                NothingChangesTest::answersUpToTheLastCall);
         end();
     }
 }

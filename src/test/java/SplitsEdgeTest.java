@@ -287,6 +287,68 @@ public final class SplitsEdgeTest extends Checks {
         due("what was there before", suite.at(3), NONE);
     }
 
+    /** The result 7 6 5 of the text 0 1 2 0 1 5, with one word of letters 0 1 2. */
+    private static TokenSuite withResult() {
+        TokenSuite suite = nested();
+        retype(suite, "012015");
+        suite.split(0);
+        return suite;
+    }
+
+    private static void splitAloneChangesTheResult() {
+        TokenSuite suite = withResult();
+        suite.type(3);
+        due("after type", result(suite), "7 6 5");
+        suite.wipe();
+        due("after wipe", result(suite), "7 6 5");
+        suite.price(7, 99);
+        due("after price", result(suite), "7 6 5");
+        suite.dropWord();
+        due("after dropWord", result(suite), "7 6 5");
+        add(suite, 2, "44");
+        due("after word and spell", result(suite), "7 6 5");
+        due("another token", suite.learn(), 8);
+        due("after learn", result(suite), "7 6 5");
+        suite.unlearn();
+        due("after unlearn", result(suite), "7 6 5");
+        suite.type(4);
+        suite.type(4);
+        suite.split(0);
+        due("after split", result(suite), "4 4");
+        suite.learn();
+        due("a result is not made anew for a new token", result(suite), "4 4");
+        suite.split(0);
+        due("but by the next split", result(suite), "8");
+    }
+
+    private static void sizeCountsForgottenTokens() {
+        TokenSuite suite = withResult();
+        for (int left = 7; left >= 6; left--) {
+            due("unlearn", suite.unlearn(), left);
+            due("size", suite.size(), 3);
+        }
+        due("cost leaves them out", suite.cost(), 20);
+        suite.split(0);
+        due("size of a new result", suite.size(), 6);
+    }
+
+    private static void atTellsForgottenTokens() {
+        TokenSuite suite = withResult();
+        suite.unlearn();
+        suite.unlearn();
+        due("there is no token 7", suite.length(7), BAD);
+        due("the first is 7 still", suite.at(0), 7);
+        due("there is no token 6", suite.length(6), BAD);
+        due("the second is 6 still", suite.at(1), 6);
+        due("a letter", suite.at(2), 5);
+        due("behind it", suite.at(3), NONE);
+        suite.dropWord();
+        add(suite, 2, "44");
+        due("another token", suite.learn(), 6);
+        due("the second has its number", suite.at(1), 6);
+        due("the first is 7 still, with another 6", suite.at(0), 7);
+    }
+
     private static void waysOfEmptyText() {
         TokenSuite suite = new TokenSuite();
         due("new", suite.ways(), 1);
@@ -416,7 +478,7 @@ public final class SplitsEdgeTest extends Checks {
     private static void terms() {
         sentence("Terms", "for every learned token in the order of their numbers",
                 SplitsEdgeTest::mergesInOrderOfNumbers);
-        sentence("Terms", "from the left .. and it is gone on behind it",
+        sentence("Terms", "from the left [..] and it is gone on behind it",
                 SplitsEdgeTest::mergesFromTheLeftAndGoesOnBehind);
         sentence("Terms", "the token that spells most letters", SplitsEdgeTest::longestTakesMostLetters);
         sentence("Terms", "and fits there", SplitsEdgeTest::longestFits);
@@ -438,12 +500,16 @@ public final class SplitsEdgeTest extends Checks {
         sentence("15", "answers how many letters it had", SplitsEdgeTest::wipeAnswersHowManyItHad);
         sentence("15", "The text becomes empty", SplitsEdgeTest::wipeLeavesTheResult);
         sentence("16", "way is not 0 .. 2: BAD", SplitsEdgeTest::wayOutsideItsBounds);
-        sentence("16", "The result becomes what .. makes of the text", SplitsEdgeTest::splitOfEmptyText);
-        sentence("16", "The result becomes what .. makes of the text", SplitsEdgeTest::splitOfOneLetter);
+        sentence("16", "The result becomes what [..] makes of the text", SplitsEdgeTest::splitOfEmptyText);
+        sentence("16", "The result becomes what [..] makes of the text", SplitsEdgeTest::splitOfOneLetter);
         sentence("16", "Else answers how many tokens the result has",
                 SplitsEdgeTest::splitAnswersHowManyTokens);
+        sentence("16", "The result becomes what [..] makes of the text",
+                SplitsEdgeTest::splitAloneChangesTheResult);
         sentence("17", "The number of tokens of the result", SplitsEdgeTest::sizeOfResult);
+        sentence("17", "The number of tokens of the result", SplitsEdgeTest::sizeCountsForgottenTokens);
         sentence("18", "NONE if there is none", SplitsEdgeTest::atOutsideTheResult);
+        sentence("18", "Token i (0 the first) of the result", SplitsEdgeTest::atTellsForgottenTokens);
     }
 
     private static void waysAndRanks() {
@@ -453,7 +519,7 @@ public final class SplitsEdgeTest extends Checks {
         sentence("21", "there is none: NONE", SplitsEdgeTest::rankThatIsNotThere);
         sentence("21", "The sum of the prices", SplitsEdgeTest::rankedSums);
         sentence("22", "k is not 0 .. 5: BAD", SplitsEdgeTest::rankedAtBadRank);
-        sentence("22", "there is no such split .. NONE", SplitsEdgeTest::rankedAtNoSuchSplit);
+        sentence("22", "there is no such split [..] NONE", SplitsEdgeTest::rankedAtNoSuchSplit);
         sentence("22", "or no such token: NONE", SplitsEdgeTest::rankedAtNoSuchToken);
         sentence("22", "the tests are made in the order named", SplitsEdgeTest::rankedAtTestsRankFirst);
     }

@@ -255,7 +255,7 @@ public final class SumsEdgeTest extends Checks {
         sentence("19", "of the tokens of the result that there still are",
                 SumsEdgeTest::costOfTokensThatThereStillAre);
         sentence("19", "of the tokens of the result that there still are", SumsEdgeTest::costOfTheLastToken);
-        sentence("26", "counts again .. once another one has its number", SumsEdgeTest::forgottenCountsAgain);
+        sentence("26", "counts again [..] once another one has its number", SumsEdgeTest::forgottenCountsAgain);
         sentence("26", "with the price there is now", SumsEdgeTest::countsWithThePriceThereIsNow);
     }
 

@@ -220,7 +220,7 @@ public final class TokensEdgeTest extends Checks {
     }
 
     private static void prices() {
-        sentence("13", "x is not good .. BAD", TokensEdgeTest::priceOfBadToken);
+        sentence("13", "x is not good [..] BAD", TokensEdgeTest::priceOfBadToken);
         sentence("13", "or price not 1 .. 99: BAD", TokensEdgeTest::priceOutsideItsBounds);
         sentence("13", "x is not good, or price not 1 .. 99", TokensEdgeTest::priceBothBad);
         sentence("13", "a learned one keeps it until it is forgotten",

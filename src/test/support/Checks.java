@@ -18,6 +18,10 @@ abstract class Checks {
     static void sentence(String place, String words, Runnable test) {
         sentences++;
         tested = place + " \"" + words + "\": ";
+        if (!Document.says(place, words)) {
+            wrong++;
+            System.out.println(tested + "the document has no such words there");
+        }
         test.run();
         tested = "";
     }
@@ -40,7 +44,7 @@ abstract class Checks {
         if (wrong > 0) {
             System.exit(1);
         }
-        System.out.println(sentences == 0 ? "all promises hold" : sentences + " sentences hold");
+        System.out.println("all holds that was tested" + (sentences > 0 ? ", sentences: " + sentences : ""));
     }
 
     static void add(TokenSuite suite, int count, String letters) {
